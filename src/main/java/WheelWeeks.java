@@ -283,10 +283,7 @@ public final class WheelWeeks {
     }
 
     public int strengths(int i, int r) {
-        if (!cart.wheel.isSpoke(i) || !rows.isNumber(r)) {
-            return BAD;
-        }
-        int refused = refuseLimps(r);
+        int refused = refuseGuess(i, r);
         if (refused != 0) {
             return refused;
         }
@@ -294,10 +291,7 @@ public final class WheelWeeks {
     }
 
     public int kinds(int i, int r) {
-        if (!cart.wheel.isSpoke(i) || !rows.isNumber(r)) {
-            return BAD;
-        }
-        int refused = refuseLimps(r);
+        int refused = refuseGuess(i, r);
         if (refused != 0) {
             return refused;
         }
@@ -317,7 +311,8 @@ public final class WheelWeeks {
         if (cart.wheel.isEmpty()) {
             return STATE;
         }
-        return aside.fightFromNow(n);
+        // at first neither of them has anything sure
+        return aside.fight(n, true, cart.wheel.there, 0, -1, NEAR + 1);
     }
 
     // ---- 7 chances, lots
@@ -432,6 +427,11 @@ public final class WheelWeeks {
             return refuse(SIZE);
         }
         return rows.holdsBits(r) ? 0 : refuse(UNLIKE);
+    }
+
+    /** 0, if the ROW can tell of the SPOKE. */
+    private int refuseGuess(int i, int r) {
+        return cart.wheel.isSpoke(i) && rows.isNumber(r) ? refuseLimps(r) : BAD;
     }
 
     private int makeAnew(Shelf shelf, int r, int n, int fill) {
@@ -662,13 +662,13 @@ public final class WheelWeeks {
     /** Reads a TEXT into a draft of a WHEEL, as far as it can go on. */
     private static final class Reader {
         final Wheel draft = new Wheel();
-        private int[] signs;
+        private final int[] signs = new int[TEXT_MOST];
         private int size;
         private int place;
 
         /** The FAULT, or NONE: then the draft is whole. */
         int read(int[] text, int length) {
-            signs = text;
+            System.arraycopy(text, 0, signs, 0, TEXT_MOST);
             size = length;
             place = 0;
             draft.spokes = 0;
@@ -1203,16 +1203,12 @@ public final class WheelWeeks {
             return many;
         }
 
-        int fightFromNow(int turns) {
-            return fight(turns, true, now.there, 0, -1, NEAR + 1);
-        }
-
         /**
          * The LIMPS that both come to by so many turns more; fresh are SPOKES that were put in.
          * Low is what the carter has sure elsewhere, high what the wright has: where these meet,
          * one of them won't let it come to this, so the rest is not looked at.
          */
-        private int fight(int turns, boolean carter, int there, int fresh, int low, int high) {
+        int fight(int turns, boolean carter, int there, int fresh, int low, int high) {
             if (turns <= 0) {
                 return limpsWith(there, fresh);
             }

@@ -19,6 +19,7 @@ public final class DeedsTest {
         noSpokes();
         undo();
         keep();
+        keptDeeds();
         lots();
         lotsWrong();
         due.end();
@@ -113,6 +114,10 @@ public final class DeedsTest {
     }
 
     private static void soak() {
+        WheelWeeks eight = Due.wheel("r0000000000c11c11c11c11c11c11c11c11");
+        eight.weather();
+        eight.lots(20, 7);
+        due.is("soak() of eight", eight.soak() >= 0 ? 1 : 0, 1);
         WheelWeeks x = Due.wheel("r1111111140c99c99c99");
         x.weather();
         for (int k = 0; k < 8; k++) {
@@ -270,6 +275,32 @@ public final class DeedsTest {
         due.is("keep(3)", x.keep(3), -1);
         due.is("on(-1)", x.on(-1), -1);
         due.is("on(3)", x.on(3), -1);
+    }
+
+    /** Behind on() the kept DEEDS are undone, not those that were done since. */
+    private static void keptDeeds() {
+        WheelWeeks x = Due.wheel(FLAT);
+        x.weather();
+        x.knock(1);
+        x.step();
+        long digest = x.digest();
+        x.mend(1);
+        x.keep(0);
+        x.undo(0);
+        x.step();
+        x.step();
+        x.knock(3);
+        x.soak();
+        x.soak();
+        x.keep(1);
+        due.is("on(0)", x.on(0), 4);
+        due.is("undo(3)", x.undo(3), 1);
+        due.is("count(4)", x.count(4), 13);
+        x.wheel(0);
+        x.weather();
+        x.knock(1);
+        x.step();
+        due.is("digest() behind the same DEEDS", x.digest(), digest);
     }
 
     /** Each DEED by hand, as the LOTS tell it. */

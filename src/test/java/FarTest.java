@@ -79,6 +79,8 @@ public final class FarTest {
         due.is("limps(9, 2)", x.limps(9, 2), 2);
         due.is("asked() is not told", x.asked(), 0);
         holds(x, 2, 0, 0, 1, 0, 0, 0, 1, 0, 0);
+        due.is("limps(2, 5)", x.limps(2, 5), 0);
+        holds(x, 5, 0, 0);
         due.is("limps(1, 5)", x.limps(1, 5), 0);
         holds(x, 5, 0);
         due.is("limps(20, 0)", x.limps(20, 0), 5);

@@ -111,6 +111,10 @@ public final class RowsTest {
         meanOf(x, Integer.MAX_VALUE, Integer.MAX_VALUE, Integer.MAX_VALUE, Integer.MAX_VALUE);
         meanOf(x, Integer.MIN_VALUE, Integer.MIN_VALUE, Integer.MIN_VALUE);
         meanOf(x, 0, Integer.MIN_VALUE, Integer.MAX_VALUE);
+        int[] many = new int[40];
+        java.util.Arrays.fill(many, 6);
+        meanOf(x, 6, many);
+        meanOf(x, 9, 9, 9, 9);
     }
 
     private static void meanOf(WheelWeeks x, int want, int... numbers) {

@@ -3,6 +3,7 @@ public final class ToldTest {
     private static final Due due = new Due("ToldTest");
 
     public static void main(String[] args) {
+        constants();
         newObject();
         asked();
         askedStays();
@@ -13,6 +14,15 @@ public final class ToldTest {
         digestTellsNothingElse();
         twoObjects();
         due.end();
+    }
+
+    private static void constants() {
+        due.is("BAD", WheelWeeks.BAD, -1);
+        due.is("FULL", WheelWeeks.FULL, -2);
+        due.is("FINDING", WheelWeeks.FINDING, -3);
+        due.is("STATE", WheelWeeks.STATE, -4);
+        due.is("SPENT", WheelWeeks.SPENT, -6);
+        due.is("NONE", WheelWeeks.NONE, -9);
     }
 
     private static void newObject() {
@@ -142,6 +152,12 @@ public final class ToldTest {
         x.step();
         x.step();
         counts(x, 5, 5, 9, 0, 27, 1, 0, 42, 1, 2, 2, 25, 3);
+        Due.write(x, 0, "r1111111142 c11 i21 u31 s41 e51 g61 i71 u81");
+        x.wheel(0);
+        counts(x, 8, 0, 0, 0, 255, 0, 0, 42, 1, 2, 0, 36, 4);
+        Due.write(x, 0, "r1111111142 c11 i21 u31");
+        x.wheel(0);
+        counts(x, 3, 0, 0, 0, 7, 0, 0, 42, 1, 2, 0, 6, 2);
     }
 
     private static void counts(WheelWeeks x, int... wanted) {
