@@ -208,6 +208,8 @@ final class AsideEdges {
         e.is(Due.wheel(FLAT), "turned()", 0, 0);
         // OVER behind 2, 4, 4, 3 STEPS, two of which LIMP
         e.is(Due.wheel(FRAIL), "turned()", 1, 18);
+        // on RUTS 0 and 8 one GOES, wherever it stands (on no SPOKE at all it would LIMP less): OVER on RUT 9
+        e.is(Due.wheel("r9000000000c91c91c91"), "turned()", 0, 15);
         WheelWeeks over = Due.wheel(FLAT);
         e.run(over, "step() knock(0) knock(3)");
         e.is(over, "turned()", 0, 20);

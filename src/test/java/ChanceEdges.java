@@ -73,6 +73,9 @@ final class ChanceEdges {
         duels(worn, 12, 12, 12);
         e.run(worn, "knock(0)");
         duels(worn, 12, 12, 11);
+        // SPOKE 0 is anew, and doesn't LIMP once, unless the carter knocks it out
+        e.run(worn, "mend(0)");
+        duels(worn, 11, 12, 11);
     }
 
     private void odds() {

@@ -144,6 +144,8 @@ final class TextsEdges {
         fault("r123456789", 10);
         fault("r123456787x", 10);
         fault("r123456786:", 10);
+        fault("r123456786/", 10);
+        fault("r123456780/" + SPOKES, 10);
         fault("r12345678/0", 9);
         fault("r12345678:0", 9);
     }
