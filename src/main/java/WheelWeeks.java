@@ -1208,7 +1208,7 @@ public final class WheelWeeks {
          * Low is what the carter has sure elsewhere, high what the wright has: where these meet,
          * one of them won't let it come to this, so the rest is not looked at.
          */
-        int fight(int turns, boolean carter, int there, int fresh, int low, int high) {
+        private int fight(int turns, boolean carter, int there, int fresh, int low, int high) {
             if (turns <= 0) {
                 return limpsWith(there, fresh);
             }

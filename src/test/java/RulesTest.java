@@ -28,7 +28,9 @@ public final class RulesTest {
         face();
         names();
         classes();
-        words(Files.readString(Path.of("src/main/java/WheelWeeks.java")));
+        String file = Files.readString(Path.of("src/main/java/WheelWeeks.java"));
+        words(file);
+        recursion(file);
         due.end();
     }
 
@@ -113,6 +115,23 @@ public final class RulesTest {
             check("no " + word, !Pattern.compile(word).matcher(code).find());
         }
         check("signs 1 to 127 alone", file.chars().allMatch(c -> c < 128));
+    }
+
+    /** Rule 8: what calls itself is private. */
+    private static void recursion(String file) {
+        String head = "^( +)((?:(?:public|private|static) )*)[\\w\\[\\]]+ (\\w+)\\([^)]*\\) \\{\n";
+        Matcher method = Pattern.compile("(?ms)" + head + "(.*?)^\\1\\}$").matcher(file);
+        int many = 0;
+        int recursive = 0;
+        while (method.find()) {
+            many++;
+            if (Pattern.compile("(?<![.\\w])" + method.group(3) + "\\(").matcher(method.group(4)).find()) {
+                recursive++;
+                check(method.group(3) + "() calls itself and is private", method.group(2).contains("private"));
+            }
+        }
+        check("methods were found", many > 100);
+        due.is("methods that call themselves", recursive, 1);
     }
 
     private static void check(String told, boolean holds) {
